@@ -401,7 +401,7 @@ public final class WetWalls {
         trialWall.becomeAs(wall);
         int hour = nextHour;
         for (int behind = 1; behind <= last; behind++) {
-            trialWall.letHourPass(hours[hour], trialShare);
+            trialWall.moveWater(hours[hour], trialShare);
             hour = hourBehind(hour);
             if (!readingsHoldBehind(behind)) {
                 return false;
@@ -485,19 +485,15 @@ public final class WetWalls {
             }
         }
 
-        /** Becomes as the other is, but for the sums, which a trial has no use for. */
+        /** Takes over all that the ways of water depend on; a trial has no use for the rest. */
         private void becomeAs(Wall other) {
             for (int k = 0; k < CURVES; k++) {
                 System.arraycopy(other.corners[k], 0, corners[k], 0, CORNERS);
             }
             copyRow(other.room, room);
             copyRow(other.steam, steam);
-            copyRow(other.heat, heat);
             copyRow(other.curve, curve);
             copyRow(other.held, held);
-            copyRow(other.frost, frost);
-            copyRow(other.mould, mould);
-            copyRow(other.warm, warm);
             size = other.size;
         }
 
@@ -568,11 +564,15 @@ public final class WetWalls {
         }
 
         private void letHourPass(int[] hour, int share) {
+            moveWater(hour, share);
+            feelWarmth(hour[WARM_OUT], hour[WARM_IN]);
+        }
+
+        private void moveWater(int[] hour, int share) {
             takeRain(partDown(hour[RAIN] * share, MOST_SHARE));
             for (int border = 0; border <= size; border++) {
                 crossBorder(border, hour);
             }
-            feelWarmth(hour[WARM_OUT], hour[WARM_IN]);
         }
 
         private void takeRain(int rain) {
