@@ -460,7 +460,7 @@ public final class WetWalls {
         }
 
         private boolean has(int i) {
-            return within(i, 0, size - 1);
+            return i >= 0 && i < size;
         }
 
         private void addInside(int itsRoom, int itsSteam, int itsHeat, int itsCurve) {
