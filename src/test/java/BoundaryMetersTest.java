@@ -28,6 +28,8 @@ public final class BoundaryMetersTest {
         fitsFromNowOn();
         fitsBehindTheLastHour();
         fitsWhateverTheShare();
+        fitsByEachCurve();
+        fitsByEachLayer();
         fitsChangesNothing();
         fitsState();
         fitsThirtyTimes();
@@ -300,6 +302,42 @@ public final class BoundaryMetersTest {
             x.read(0, 1, 30, 68);
             CHECK.due("fits with share " + share, x.fits(), 8 + 16 + 32 + 64 + 128);
             CHECK.due("share stays " + share, x.count(3), share);
+        }
+    }
+
+    // DAMP by the LAYER's own CURVE, as its CORNERS are now.
+    private static void fitsByEachCurve() {
+        for (int curve = 0; curve < 3; curve++) {
+            WetWalls x = new WetWalls();
+            x.layer(10, 50, 1, curve);
+            x.hour(0, 0, 0, 0, 0);
+            x.fits();
+            Check.flatten(x, curve, 40);
+            x.read(0, 1, 40, 40);
+            CHECK.due("fits by curve " + curve, x.fits(), ALL);
+            x.corner(curve, 0, 39);
+            CHECK.due("fits by another corner of curve " + curve, x.fits(), 0);
+            x.clear();
+            x.layer(10, 50, 1, (curve + 1) % 3);
+            x.read(0, 1, 0, 0);
+            CHECK.due("fits by a curve that is not " + curve, x.fits(), ALL);
+        }
+    }
+
+    // "DAMP of a LAYER": the one that is told, from the first to the last.
+    private static void fitsByEachLayer() {
+        for (int i = 0; i < 6; i++) {
+            WetWalls x = new WetWalls();
+            for (int k = 0; k < 6; k++) {
+                x.layer(100, 50, 1, 0);
+                x.water(k, k);
+            }
+            x.hour(0, 0, 0, 0, 0);
+            // Damp is ten times water, and 50 is too little to go anywhere.
+            x.read(i, 1, 10 * i, 10 * i);
+            CHECK.due("fits by layer " + i, x.fits(), ALL);
+            x.read(i, 1, 10 * i + 1, 1000);
+            CHECK.due("does not fit by layer " + i, x.fits(), 0);
         }
     }
 

@@ -13,6 +13,7 @@ public final class BoundaryOldWayTest {
         pressureOutsideIsRoundedDown();
         pressureInsideIsRoundedDown();
         pressureAtASeamIsRoundedDown();
+        seamsOfThreeAreRoundedDown();
         pressureOfTheFarthestNumbers();
         warmthAtASeamIsRoundedDown();
         warmthOfTheFarthestNumbers();
@@ -28,6 +29,8 @@ public final class BoundaryOldWayTest {
         excessBySaturationBelowZero();
         bestOfOneLayer();
         bestIsTheLeast();
+        bestIsTheLeastOfAllTogether();
+        bestOfFewBehindBestOfMany();
         bestOfSeveralTheLeastNumbers();
         bestOfSeveralThenTheSecond();
         bestChangesNothing();
@@ -35,6 +38,7 @@ public final class BoundaryOldWayTest {
         arrangeNoneChanged();
         arrangeAllChanged();
         arrangeThreeChanged();
+        arrangeWithAllTheyHave();
         readingsAndSumsStay();
         CHECK.end("the old way's boundaries");
     }
@@ -93,6 +97,21 @@ public final class BoundaryOldWayTest {
             // At 10 saturation is 1000, so that pressure is damp.
             x.hour(v[0], 10, 0, v[1], 10);
             CHECK.due("pressure from " + v[0] + " to " + v[1], x.pressure(0, 1), v[2]);
+        }
+    }
+
+    // The same by 5: twice, and three times, of a difference from -6 to 6.
+    private static void seamsOfThreeAreRoundedDown() {
+        int[] twice = {-3, -2, -2, -2, -1, -1, 0, 0, 0, 1, 1, 2, 2};
+        int[] thrice = {-4, -3, -3, -2, -2, -1, 0, 0, 1, 1, 2, 3, 3};
+        for (int k = 0; k <= 12; k++) {
+            WetWalls x = walls(3, 1, 1);
+            x.hour(10, 10, 0, 4 + k, 10);
+            x.hour(0, 0, 0, 0, k - 6);
+            CHECK.due("pressure by " + (k - 6) + ", seam 1", x.pressure(0, 1), 10 + twice[k]);
+            CHECK.due("pressure by " + (k - 6) + ", seam 2", x.pressure(0, 2), 10 + thrice[k]);
+            CHECK.due("warmth by " + (k - 6) + ", seam 1", x.warmth(1, 1), twice[k]);
+            CHECK.due("warmth by " + (k - 6) + ", seam 2", x.warmth(1, 2), thrice[k]);
         }
     }
 
@@ -314,6 +333,55 @@ public final class BoundaryOldWayTest {
         CHECK.due("best of six, once it stands so", excessOfAll(six, 5), best);
     }
 
+    /** The hardest hour there is: pressure is 0 outside and 2600 inside. */
+    private static WetWalls hardest(int many, int[][] steamAndHeat) {
+        WetWalls x = new WetWalls();
+        for (int i = 0; i < many; i++) {
+            x.layer(100 + i, steamAndHeat[i][0], steamAndHeat[i][1], 0);
+        }
+        x.hour(1000, -30, 0, 1000, 50);
+        return x;
+    }
+
+    private static final int[][] ALIKE = {{1, 1}, {1, 1}, {1, 1}};
+    private static final int[][] GROWING = {{1, 1}, {2, 2}, {3, 3}};
+
+    // "together": the order whose first seam is the best may not be the best one.
+    private static void bestIsTheLeastOfAllTogether() {
+        // Half way it is 10 warm: 1300 less 1000.
+        CHECK.due("best of two alike", hardest(2, ALIKE).best(0), 300);
+        // At two fifths it is 2 warm: 1040 less 680; at three fifths 18: 1560 less 1320.
+        CHECK.due("best of three alike", hardest(3, ALIKE).best(0), 360 + 240);
+        // A seam's excess by the resists ahead of it, 1 to 5: 250, 375, 300, 225, 150.
+        WetWalls x = hardest(3, GROWING);
+        CHECK.due("as it stands", x.excess(0, 1), 250);
+        CHECK.due("as it stands", x.excess(0, 2), 300);
+        CHECK.due("best of three that grow", x.best(0), 300 + 150);
+        duePlaces("best of three that grow", x, 2, 1, 0);
+        CHECK.due("arrange three that grow", x.arrange(0), 2);
+        CHECK.due("as it stands then", x.excess(0, 1), 300);
+        CHECK.due("as it stands then", x.excess(0, 2), 150);
+    }
+
+    // The same, when an object has told of more LAYERS, or of another HOUR, ahead.
+    private static void bestOfFewBehindBestOfMany() {
+        WetWalls x = hardest(3, GROWING);
+        x.best(0);
+        x.clear();
+        x.layer(10, 1, 1, 0);
+        x.layer(10, 1, 1, 0);
+        CHECK.due("best of two behind three", x.best(0), 300);
+        x.clear();
+        x.layer(10, 1, 1, 0);
+        CHECK.due("best of one behind two", x.best(0), 0);
+        x.layer(10, 1, 1, 0);
+        x.layer(10, 1, 1, 0);
+        CHECK.due("best of three behind one", x.best(0), 600);
+        x.hour(0, 20, 0, 0, 20);
+        CHECK.due("best for a dry hour", x.best(1), 0);
+        CHECK.due("best for the hardest again", x.best(0), 600);
+    }
+
     // "of several the one whose first LAYER has the least number".
     private static void bestOfSeveralTheLeastNumbers() {
         int[][] alike = {{5, 5}, {5, 5}, {5, 5}, {5, 5}, {5, 5}, {5, 5}};
@@ -406,6 +474,25 @@ public final class BoundaryOldWayTest {
         CHECK.dueAbout("arrange three", x, 0, 102, 1, 40, 2, 12);
         CHECK.dueAbout("arrange three", x, 1, 100, 10, 1, 0, 10);
         CHECK.dueAbout("arrange three", x, 2, 101, 10, 1, 1, 11);
+    }
+
+    // Promise 18: "with all they have": frost, mould and warmth too.
+    private static void arrangeWithAllTheyHave() {
+        WetWalls x = winter(new int[][] {{10, 1}, {1, 40}});
+        Check.flatten(x, 0, 900);
+        Check.flatten(x, 1, 900);
+        x.water(0, 100);
+        x.water(1, 99);
+        x.fair();
+        x.hour(900, -10, 0, 900, 50);
+        x.pass(3);
+        x.hour(800, -10, 0, 600, 20);
+        // From -10 to 50 the whole way is 86: 3 of it to layer 0, and 44 to layer 1.
+        CHECK.dueAbout("ahead of arrange", x, 0, 100, 10, 1, 0, 100, 900, 3, 0, -8);
+        CHECK.dueAbout("ahead of arrange", x, 1, 101, 1, 40, 1, 99, 900, 0, 3, 20);
+        CHECK.due("arrange with all they have", x.arrange(1), 2);
+        CHECK.dueAbout("behind arrange", x, 0, 101, 1, 40, 1, 99, 900, 0, 3, 20);
+        CHECK.dueAbout("behind arrange", x, 1, 100, 10, 1, 0, 100, 900, 3, 0, -8);
     }
 
     // Promise 18: "READINGS, sums stay".
