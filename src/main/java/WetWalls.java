@@ -16,7 +16,7 @@ public final class WetWalls {
     private static final int CORNERS = 5;
     private static final int[] FIRST_CORNERS = {0, 250, 500, 750, 1000};
 
-    // Sums, pressures and warmths may be below 0 themselves, so their refusals lie far off.
+    // Sums and warmths may be below 0 themselves, so their refusals lie far off; pressures refuse as warmths do.
     private static final int SUM_OUTSIDE = -1000000001;
     private static final int FACE_UNKNOWN = -10101;
     private static final int FACE_STATE = -10103;
@@ -43,6 +43,9 @@ public final class WetWalls {
     private static final int READ_LEAST = 2;
     private static final int READ_MOST = 3;
     private static final int READING_NUMBERS = 4;
+
+    // What outside and inside have, and have room for: no flow comes near it.
+    private static final int BOUNDLESS = 2147483647;
 
     private static final int LAYER_TELLINGS = 9;
     private static final int COUNTS = 7;
@@ -603,11 +606,11 @@ public final class WetWalls {
         }
 
         private int waterToGive(int i) {
-            return has(i) ? held[i] : Integer.MAX_VALUE;
+            return has(i) ? held[i] : BOUNDLESS;
         }
 
         private int freeRoom(int i) {
-            return has(i) ? room[i] - held[i] : Integer.MAX_VALUE;
+            return has(i) ? room[i] - held[i] : BOUNDLESS;
         }
 
         private void addWater(int i, int amount) {

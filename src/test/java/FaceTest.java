@@ -21,7 +21,13 @@ public final class FaceTest {
     private static final Set<String> CONSTANTS = new TreeSet<>(Set.of("NONE", "UNKNOWN", "OUTSIDE", "STATE", "FULL"));
     private static final String[] FORBIDDEN = {
         "\\bthrows?\\b", "\\btry\\b", "\\bcatch\\b", "\\bsynchronized\\b", "\\bassert\\b", "\\bimport\\b", "\\bpackage\\b",
-        "->", "::", "\\w+Exact\\b", "\\bprotected\\b"};
+        "->", "::", "\\w+Exact\\b", "\\bprotected\\b", "\\bjavax?\\.", "\\bvar\\b", "\"", "\\bdouble\\b", "\\bfloat\\b"};
+    // Of what rule 4 lists, this is all that the class needs.
+    private static final Set<String> LIBRARY = Set.of("Math.min", "Math.max", "System.arraycopy");
+    private static final int MOST_PARAMETERS = 7;
+    private static final int MOST_LINES = 60;
+    private static final int MOST_CLASSES = 12;
+    private static final int MOST_FIELDS = 20;
 
     private static int wrong = 0;
 
@@ -30,7 +36,12 @@ public final class FaceTest {
         checkConstants();
         checkConstructor();
         checkClasses();
-        checkWords();
+        checkSizes();
+        String code = codeOf("src/main/java/WetWalls.java");
+        checkWords(code);
+        checkMaking(code);
+        checkLibrary(code);
+        checkLines(code);
         System.out.println(wrong == 0 ? "the face is as told" : wrong + " faults in the face");
         System.exit(wrong == 0 ? 0 : 1);
     }
@@ -96,30 +107,104 @@ public final class FaceTest {
         }
     }
 
+    private static Class<?>[] parts() {
+        return WetWalls.class.getDeclaredClasses();
+    }
+
     private static void checkClasses() {
-        for (Class<?> part : WetWalls.class.getDeclaredClasses()) {
+        for (Class<?> part : parts()) {
             int modifiers = part.getModifiers();
             if (!Modifier.isStatic(modifiers) || Modifier.isPublic(modifiers) || Modifier.isProtected(modifiers)) {
                 fault("a class inside is not as told: " + part);
             }
+            checkStatics(part);
+        }
+        // Local and anonymous classes, and helpers that the compiler makes, would show here alone.
+        if (WetWalls.class.getNestMembers().length != parts().length + 1) {
+            fault("there are classes beside those inside");
+        }
+        checkStatics(WetWalls.class);
+    }
+
+    private static void checkStatics(Class<?> part) {
+        Set<String> allowed = Set.of("int", "long", "boolean", "char", "int[]", "long[]", "char[]", "byte[]", "String");
+        for (Field f : part.getDeclaredFields()) {
+            if (Modifier.isStatic(f.getModifiers())
+                    && !(Modifier.isFinal(f.getModifiers()) && allowed.contains(f.getType().getSimpleName()))) {
+                fault("a static field is not as told: " + f);
+            }
         }
     }
 
-    private static void checkWords() throws IOException {
-        String text = Files.readString(Path.of("src/main/java/WetWalls.java"));
-        String code = text.replaceAll("(?s)/\\*.*?\\*/", "").replaceAll("//[^\n]*", "");
+    private static void checkSizes() {
+        if (parts().length + 1 > MOST_CLASSES) {
+            fault("there are too many classes");
+        }
+        for (Class<?> part : WetWalls.class.getNestMembers()) {
+            int fields = 0;
+            for (Field f : part.getDeclaredFields()) {
+                fields += Modifier.isStatic(f.getModifiers()) ? 0 : 1;
+            }
+            if (fields > MOST_FIELDS) {
+                fault("there are too many fields in " + part);
+            }
+            for (Method m : part.getDeclaredMethods()) {
+                if (m.getParameterCount() > MOST_PARAMETERS) {
+                    fault("there are too many parameters of " + m);
+                }
+            }
+        }
+    }
+
+    private static String codeOf(String file) throws IOException {
+        String text = Files.readString(Path.of(file));
+        return text.replaceAll("(?s)/\\*.*?\\*/", "").replaceAll("//[^\n]*", "");
+    }
+
+    private static void checkWords(String code) {
         for (String word : FORBIDDEN) {
             Matcher found = Pattern.compile(word).matcher(code);
             if (found.find()) {
                 fault("the class uses " + found.group());
             }
         }
-        // Whatever is made beyond the constructors would add up over all calls of a run.
-        Matcher made = Pattern.compile("(?m)^.*\\bnew\\b.*$").matcher(code);
+    }
+
+    // Whatever is made beyond the constructors would add up over all calls of a run.
+    private static void checkMaking(String code) {
+        Matcher made = Pattern.compile("(?m)^.*\\b(new|clone|copyOf|copyOfRange)\\b.*$").matcher(code);
         while (made.find()) {
             if (!made.group().trim().startsWith("private final ")) {
                 fault("something is made outside a field: " + made.group().trim());
             }
+        }
+    }
+
+    private static void checkLibrary(String code) {
+        Set<String> own = new TreeSet<>(Set.of("WetWalls"));
+        for (Class<?> part : parts()) {
+            own.add(part.getSimpleName());
+        }
+        Matcher used = Pattern.compile("\\b([A-Z]\\w*[a-z]\\w*)\\.\\w+").matcher(code);
+        while (used.find()) {
+            if (!own.contains(used.group(1)) && !LIBRARY.contains(used.group())) {
+                fault("the class uses " + used.group());
+            }
+        }
+    }
+
+    /** A method ends at the first brace that stands as far to the left as its head. */
+    private static void checkLines(String code) {
+        Matcher body = Pattern.compile("(?ms)^( +)(?:public|private) [^;={]*\\([^;={]*\\) \\{\n.*?^\\1\\}").matcher(code);
+        int methods = 0;
+        while (body.find()) {
+            methods++;
+            if (body.group().lines().count() > MOST_LINES) {
+                fault("a method is too long: " + body.group().lines().findFirst().get().trim());
+            }
+        }
+        if (methods < FACE.size()) {
+            fault("only " + methods + " methods were found");
         }
     }
 }
