@@ -40,6 +40,7 @@ public final class BoundaryOldWayTest {
         arrangeThreeChanged();
         arrangeWithAllTheyHave();
         readingsAndSumsStay();
+        readingsKeepTheirNumber();
         CHECK.end("the old way's boundaries");
     }
 
@@ -520,5 +521,25 @@ public final class BoundaryOldWayTest {
         x.forget();
         x.read(0, 1, 227, 227);
         CHECK.due("another reading of layer 0 as it stands now", x.fits(), 2047);
+    }
+
+    // The same: a READING of LAYER 0 stays one of LAYER 0, whichever stands there now; one of LAYER 1 likewise.
+    private static void readingsKeepTheirNumber() {
+        for (int layer = 0; layer < 2; layer++) {
+            WetWalls x = winter(new int[][] {{10, 1}, {1, 40}});
+            x.water(0, 50);
+            x.water(1, 7);
+            x.arrange(0);
+            x.pass(1);
+            int damp = x.about(layer, 5);
+
+            WetWalls y = winter(new int[][] {{10, 1}, {1, 40}});
+            y.water(0, 50);
+            y.water(1, 7);
+            y.read(layer, 1, damp, damp);
+            CHECK.due("a reading of layer " + layer + " ahead of arrange", y.fits(), 0);
+            y.arrange(0);
+            CHECK.due("a reading of layer " + layer + " behind arrange", y.fits(), 2047);
+        }
     }
 }
